@@ -486,7 +486,7 @@ public final class SignBench {
         }
 
         private void becomeMoved(Table other, int moved) {
-            beginRows(other.n);
+            n = other.n;
             for (int i = 0; i < n; i++) {
                 int rowSum = 0;
                 for (int j = 0; j < n; j++) {
@@ -496,15 +496,7 @@ public final class SignBench {
             }
         }
 
-        /** Makes room for a table that is then told row by row: row 0 and column 0 are 0 in every one. */
-        private void beginRows(int newSize) {
-            n = newSize;
-            for (int k = 0; k <= n; k++) {
-                corners[k] = 0;
-                corners[k * WIDTH] = 0;
-            }
-        }
-
+        /** Row 0 and column 0 of the corner sums are 0 in every table, so nothing writes there. */
         private void layRow(int i, int bits) {
             int sumSoFar = 0;
             for (int column = 0; column < n; column++) {
@@ -617,7 +609,7 @@ public final class SignBench {
 
         /** Only for a draft without fault. */
         private void copyTo(Table table) {
-            table.beginRows(n);
+            table.n = n;
             int bits = 0;
             for (int i = 1; i <= n; i++) {
                 bits = triangleBits(i, bits);
@@ -723,7 +715,7 @@ public final class SignBench {
 
         private void build(Table table, int n, long number) {
             learnWays(n);
-            table.beginRows(n);
+            table.n = n;
             long left = number;
             int row = 0;
             for (int i = 1; i <= n; i++) {
