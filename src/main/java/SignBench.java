@@ -345,7 +345,8 @@ public final class SignBench {
 
         /** The sum of the numbers of the row left of a level edge, or of the column above an upright one. */
         private int edgeSum(boolean level, int i, int j) {
-            return (level ? corner(i + 1, j) : corner(i, j + 1)) - corner(i, j);
+            int here = i * WIDTH + j;
+            return corners[level ? here + WIDTH : here + 1] - corners[here];
         }
 
         private boolean holds(boolean level, int i, int j) {
@@ -774,7 +775,8 @@ public final class SignBench {
         private static final int ABOVE = 0;
         private static final int RIGHT = 1;
         private static final int BELOW = 2;
-        private static final int SIDES = 4;
+        private static final int LEFT = 3;
+        private static final int NO_SIDE = 4;
 
         private static final int[] DOWN = {-1, 0, 1, 0};
         private static final int[] ACROSS = {0, 1, 0, -1};
@@ -834,7 +836,7 @@ public final class SignBench {
         private void goRound(Table table, int i, int j) {
             row = i;
             column = j;
-            side = nextHeldSide(table, SIDES);
+            side = nextHeldSide(table, NO_SIDE);
             follow(table);
         }
 
@@ -860,25 +862,15 @@ public final class SignBench {
 
         /** The first held side of the place, but for one. */
         private int nextHeldSide(Table table, int without) {
-            for (int candidate = 0; candidate < SIDES - 1; candidate++) {
-                if (candidate != without && holdsSide(table, candidate)) {
+            for (int candidate = ABOVE; candidate < LEFT; candidate++) {
+                int i = candidate == BELOW ? row + 1 : row;
+                int j = candidate == RIGHT ? column + 1 : column;
+                if (candidate != without && table.holds(candidate == RIGHT, i, j)) {
                     return candidate;
                 }
             }
-            return SIDES - 1;
-        }
-
-        private boolean holdsSide(Table table, int which) {
-            switch (which) {
-                case ABOVE:
-                    return table.holds(false, row, column);
-                case RIGHT:
-                    return table.holds(true, row, column + 1);
-                case BELOW:
-                    return table.holds(false, row + 1, column);
-                default:
-                    return table.holds(true, row, column);
-            }
+            // Two of the four sides are held, so it is this one if none before it was.
+            return LEFT;
         }
 
         /** Of the outer edges, gone round as ends are numbered, every second one is held, from 1 on. */

@@ -6,6 +6,8 @@ import java.lang.reflect.Modifier;
 import java.nio.file.Files;
 import java.nio.file.Path;
 import java.util.Arrays;
+import java.util.HashMap;
+import java.util.Map;
 import java.util.Set;
 import java.util.TreeSet;
 import java.util.regex.Matcher;
@@ -34,7 +36,10 @@ public final class FaceTest {
     public static void main(String[] args) throws IOException {
         members();
         nested();
-        text(Files.readString(Path.of("src/main/java/SignBench.java")));
+        String source = Files.readString(Path.of("src/main/java/SignBench.java"));
+        String code = source.replaceAll("(?s)/\\*.*?\\*/", "").replaceAll("//.*", "");
+        text(code);
+        methods(code);
         CHECKS.end();
     }
 
@@ -78,11 +83,54 @@ public final class FaceTest {
         CHECKS.due("at most twelve classes", classes <= 12, true);
     }
 
-    private static void text(String source) {
-        String code = source.replaceAll("(?s)/\\*.*?\\*/", "").replaceAll("//.*", "");
+    private static void text(String code) {
         for (String ruledOut : RULED_OUT) {
             Matcher matcher = Pattern.compile(ruledOut).matcher(code);
             CHECKS.due("'" + ruledOut + "' in the text", matcher.find(), false);
         }
+    }
+
+    /** Short, of few parameters, and calling at most eight deep, the library's functions counted too. */
+    private static void methods(String code) {
+        Map<String, Set<String>> calls = new HashMap<>();
+        Matcher heads = Pattern.compile(
+                "(?m)^ +(?:public|private)[^=;(\n]*?\\b([a-z]\\w*)\\(([^)]*)\\)\\s*\\{").matcher(code);
+        while (heads.find()) {
+            String name = heads.group(1);
+            String body = code.substring(heads.end(), endOfBody(code, heads.end()));
+            CHECKS.due(name + " is the only one of its name", calls.containsKey(name), false);
+            CHECKS.due(name + " is short", body.lines().count() <= 60, true);
+            CHECKS.due(name + " has at most seven parameters", heads.group(2).split(",").length <= 7, true);
+            Set<String> called = new TreeSet<>();
+            Matcher call = Pattern.compile("\\b(?!(?:if|for|while|switch)\\b)([a-z]\\w*)\\s*\\(").matcher(body);
+            while (call.find()) {
+                called.add(call.group(1));
+            }
+            calls.put(name, called);
+        }
+        CHECKS.due("methods are found", calls.size() > FACE.length, true);
+        for (String name : calls.keySet()) {
+            CHECKS.due(name + " calls at most eight deep", depth(calls, name, 0) <= 8, true);
+        }
+    }
+
+    private static int endOfBody(String code, int from) {
+        int open = 1;
+        int at = from;
+        while (open > 0) {
+            char c = code.charAt(at);
+            open += c == '{' ? 1 : c == '}' ? -1 : 0;
+            at++;
+        }
+        return at - 1;
+    }
+
+    private static int depth(Map<String, Set<String>> calls, String name, int above) {
+        int deepest = 0;
+        // A method that came to itself would go on without end: it is told as too deep.
+        for (String called : above > 20 ? Set.<String>of() : calls.getOrDefault(name, Set.of())) {
+            deepest = Math.max(deepest, depth(calls, called, above + 1));
+        }
+        return deepest + 1;
     }
 }
