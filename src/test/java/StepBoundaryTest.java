@@ -564,6 +564,8 @@ public final class StepBoundaryTest {
             for (int n = 5; n >= 1; n--) {
                 x.of(0, n, 0);
                 due("30: the first of each n is alone", x.alike(0), 1);
+                x.of(0, n, x.count(n) - 1);
+                due("30: the last of each n is alone", x.alike(0), 1);
             }
         }
     }
