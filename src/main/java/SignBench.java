@@ -9,6 +9,8 @@ public final class SignBench {
 
     private static final int PLACES = 8;
     private static final int MOST = 10;
+    /** Corner sums of n go from 0 to n: rows of all tables and drafts are laid this far apart. */
+    private static final int WIDTH = MOST + 1;
     private static final int MOST_COUNTED = 13;
     private static final int MOST_WEIGHED = 11;
     private static final int MOST_COMPARED = 5;
@@ -301,8 +303,6 @@ public final class SignBench {
         private static final int FLIPPED = 2;
         private static final int HALF_ROUND = 3;
 
-        private static final int WIDTH = MOST + 1;
-
         private final int[] corners = new int[WIDTH * WIDTH];
         private int n;
 
@@ -512,8 +512,6 @@ public final class SignBench {
         private static final int NUMBERS = 0;
         private static final int CORNER_SUMS = 1;
         private static final int TRIANGLE = 2;
-
-        private static final int WIDTH = MOST + 1;
 
         private final int[] cells = new int[WIDTH * WIDTH];
         private int sort = NUMBERS;
@@ -876,7 +874,7 @@ public final class SignBench {
         /** Of the outer edges, gone round as ends are numbered, every second one is held, from 1 on. */
         private void goToEnd(int n, int end) {
             int edge = 2 * end + 1;
-            side = edge < n ? 0 : edge < 2 * n ? 1 : edge < 3 * n ? 2 : 3;
+            side = edge < n ? ABOVE : edge < 2 * n ? RIGHT : edge < 3 * n ? BELOW : LEFT;
             int along = edge - side * n;
             switch (side) {
                 case ABOVE:
